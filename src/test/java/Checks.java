@@ -1,0 +1,152 @@
+import java.util.Arrays;
+import java.util.Objects;
+
+/** What the tests of the project share: comparing, expecting exceptions, and a view of an object. */
+final class Checks {
+    /** A call on the class under test. */
+    interface Call {
+        Object make();
+    }
+
+    private static int made = 0;
+    private static int wrong = 0;
+
+    private Checks() {
+    }
+
+    static void same(String what, Object got, Object want) {
+        made++;
+        if (!Objects.equals(got, want)) {
+            wrong++;
+            System.out.println(what + " answered " + got + ", due is " + want);
+        }
+    }
+
+    /** The very class is due, not one above or below it. */
+    static void refuses(String what, Class<? extends RuntimeException> due, Call call) {
+        same(what, answer(call), due.getSimpleName());
+    }
+
+    /** As refuses, and nothing that can be seen has changed. */
+    static void refusesUnchanged(String what, CrowdSketches x, Class<? extends RuntimeException> due, Call call) {
+        String before = view(x);
+        refuses(what, due, call);
+        same(what + " leaves the state", view(x), before);
+    }
+
+    static Object answer(Call call) {
+        try {
+            return call.make();
+        } catch (RuntimeException e) {
+            return e.getClass().getSimpleName();
+        }
+    }
+
+    static void refusal(String what, CrowdSketches x, int reason, int detail) {
+        same(what + ": reason", answer(() -> x.refusal(false)), reason);
+        same(what + ": detail", answer(() -> x.refusal(true)), detail);
+    }
+
+    static int type(CrowdSketches x, String text) {
+        int length = 0;
+        for (char c : text.toCharArray()) {
+            length = x.append(c);
+        }
+        return length;
+    }
+
+    static int count(CrowdSketches x, String name, int times) {
+        type(x, name);
+        return x.count(times);
+    }
+
+    static int read(CrowdSketches x, String text) {
+        type(x, text);
+        return x.read();
+    }
+
+    static int find(CrowdSketches x, String name) {
+        type(x, name);
+        int number = x.named();
+        x.append('!');
+        answer(() -> x.count(1));
+        return number;
+    }
+
+    static String lineText(CrowdSketches x) {
+        StringBuilder text = new StringBuilder();
+        for (int i = 0; answer(lineSign(x, i)) instanceof Character c; i++) {
+            text.append((char) c);
+        }
+        return text.toString();
+    }
+
+    private static Call lineSign(CrowdSketches x, int index) {
+        return () -> x.character(index);
+    }
+
+    static String cells(CrowdSketches x, int row) {
+        int[] cells = new int[x.account(1)];
+        for (int i = 0; i < cells.length; i++) {
+            cells[i] = x.cell(row, i);
+        }
+        return Arrays.toString(cells);
+    }
+
+    /** All that can be seen without a change, the line as it stands included. */
+    static String view(CrowdSketches x) {
+        StringBuilder view = new StringBuilder(changeable(x));
+        view.append(" line ").append(lineText(x));
+        view.append(" input ").append(x.account(11)).append(' ').append(answer(x::named));
+        view.append(" error ").append(x.errorPosition());
+        view.append(" reason ").append(answer(() -> x.refusal(false))).append(answer(() -> x.refusal(true)));
+        view.append(" undo ").append(x.account(12));
+        return view.toString();
+    }
+
+    /** What changes can change, and undo and restore bring back. */
+    static String changeable(CrowdSketches x) {
+        StringBuilder view = new StringBuilder();
+        for (int what = 0; what <= 13; what++) {
+            if (what != 11 && what != 12) {
+                view.append(x.account(what)).append(' ');
+            }
+        }
+        for (int row = 0; row < x.account(0); row++) {
+            view.append("row ").append(cells(x, row)).append(x.shared(row)).append(' ');
+        }
+        for (int name = 0; name < x.account(4); name++) {
+            view.append(nameView(x, name));
+        }
+        view.append(x.heavy(true)).append(' ').append(x.heavy(false)).append(' ').append(answer(x::worst));
+        view.append(' ').append(answer(x::busiest)).append(x.bound()).append(x.isWell());
+        view.append(answer(x::meanError)).append(' ').append(x.fullShare());
+        return view.toString();
+    }
+
+    private static String nameView(CrowdSketches x, int name) {
+        StringBuilder view = new StringBuilder();
+        for (int i = 0; i < 6; i++) {
+            int index = i;
+            view.append(answer(() -> x.letter(name, index)));
+        }
+        for (int row = 0; row < x.account(0); row++) {
+            view.append('@').append(x.cellOf(row, name));
+        }
+        view.append(' ').append(x.guess(name)).append('/').append(x.booked(name)).append(' ').append(x.plainGuess(name));
+        view.append(' ').append(x.error(name)).append(x.isWithin(name)).append(x.bestRow(name));
+        view.append(' ').append(x.ranked(name)).append(' ').append(x.today(name)).append(x.isRising(name));
+        for (int i = 0; i < 5; i++) {
+            int back = i;
+            view.append(' ').append(answer(() -> x.gained(name, back)));
+        }
+        return view.append("; ").toString();
+    }
+
+    static void end() {
+        System.out.println(made + " checks, " + wrong + " wrong");
+        if (wrong != 0 || made == 0) {
+            System.exit(1);
+        }
+    }
+}

@@ -65,12 +65,14 @@ final class Checks {
         return x.read();
     }
 
-    static int find(CrowdSketches x, String name) {
-        type(x, name);
-        int number = x.named();
-        x.append('!');
-        answer(() -> x.count(1));
-        return number;
+    /** "bo" 12 times and "ed" 5 times, which share a cell in row 0 of salt 0, but none in row 1 of salt 5. */
+    static CrowdSketches pair() {
+        CrowdSketches x = new CrowdSketches();
+        count(x, "bo", 12);
+        count(x, "ed", 5);
+        x.resize(2);
+        x.row(5);
+        return x;
     }
 
     static String lineText(CrowdSketches x) {
@@ -133,7 +135,8 @@ final class Checks {
         for (int row = 0; row < x.account(0); row++) {
             view.append('@').append(x.cellOf(row, name));
         }
-        view.append(' ').append(x.guess(name)).append('/').append(x.booked(name)).append(' ').append(x.plainGuess(name));
+        view.append(' ').append(x.guess(name)).append('/').append(x.booked(name));
+        view.append(' ').append(x.plainGuess(name));
         view.append(' ').append(x.error(name)).append(x.isWithin(name)).append(x.bestRow(name));
         view.append(' ').append(x.ranked(name)).append(' ').append(x.today(name)).append(x.isRising(name));
         for (int i = 0; i < 5; i++) {

@@ -19,16 +19,6 @@ public final class GuessesTest {
         Checks.end();
     }
 
-    /** "bo" 12 times and "ed" 5 times, which share a cell in row 0 of salt 0, but none in row 1 of salt 5. */
-    private static CrowdSketches pair() {
-        CrowdSketches x = new CrowdSketches();
-        Checks.count(x, "bo", 12);
-        Checks.count(x, "ed", 5);
-        x.resize(2);
-        x.row(5);
-        return x;
-    }
-
     /** One letter is in the cell of its number: "a" and "i" share one of 8, "b" and "j", too. */
     private static CrowdSketches letters(String names, int... times) {
         CrowdSketches x = new CrowdSketches();
@@ -46,7 +36,7 @@ public final class GuessesTest {
     }
 
     private static void guess() {
-        CrowdSketches x = pair();
+        CrowdSketches x = Checks.pair();
         Checks.same("promise 16: bo", x.guess(0), 12);
         Checks.same("promise 16: ed", x.guess(1), 5);
         x.drop(1);
@@ -62,7 +52,7 @@ public final class GuessesTest {
         CrowdSketches x = letters("aib", 9, 4, 7);
         Checks.same("promise 17: a", x.plainGuess(0), 13);
         Checks.same("promise 17: b", x.plainGuess(2), 7);
-        CrowdSketches y = pair();
+        CrowdSketches y = Checks.pair();
         y.drop(1);
         y.manner(true);
         Checks.same("promise 17: in one row", y.plainGuess(1), 17);
@@ -75,7 +65,7 @@ public final class GuessesTest {
 
     /** Found by trying names: in both rows "ed" shares its cell, with another name each time. */
     private static void carefulIsLessThanPlain() {
-        CrowdSketches x = pair();
+        CrowdSketches x = Checks.pair();
         Checks.count(x, "d", 9);
         x.manner(true);
         Checks.same("promise 17: by guess", x.guess(1), 9);
@@ -83,7 +73,7 @@ public final class GuessesTest {
     }
 
     private static void booked() {
-        CrowdSketches x = pair();
+        CrowdSketches x = Checks.pair();
         Checks.same("promise 18: bo", x.booked(0), 12);
         x.drop(1);
         x.again(1, 2);
@@ -129,7 +119,7 @@ public final class GuessesTest {
     }
 
     private static void bestRow() {
-        CrowdSketches x = pair();
+        CrowdSketches x = Checks.pair();
         Checks.same("promise 23: the second", x.bestRow(0), 1);
         x.row(5);
         Checks.same("promise 23: the lowest of two", x.bestRow(1), 1);

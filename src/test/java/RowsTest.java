@@ -19,16 +19,6 @@ public final class RowsTest {
         Checks.end();
     }
 
-    /** "bo" 12 times and "ed" 5 times, which share a cell in row 0 of salt 0, but none in row 1 of salt 5. */
-    private static CrowdSketches pair() {
-        CrowdSketches x = new CrowdSketches();
-        Checks.count(x, "bo", 12);
-        Checks.count(x, "ed", 5);
-        x.resize(2);
-        x.row(5);
-        return x;
-    }
-
     private static void rows(String what, CrowdSketches x, String... due) {
         Checks.same(what + ": rows", x.account(0), due.length);
         for (int row = 0; row < due.length; row++) {
@@ -69,7 +59,7 @@ public final class RowsTest {
     }
 
     private static void rowIsMadeAnewPlainly() {
-        CrowdSketches x = pair();
+        CrowdSketches x = Checks.pair();
         rows("promise 2: plain", x, "[0, 17]", "[5, 12]");
         x.manner(true);
         Checks.same("promise 2: careful", x.row(0), 2);
@@ -82,7 +72,7 @@ public final class RowsTest {
     }
 
     private static void drop() {
-        CrowdSketches x = pair();
+        CrowdSketches x = Checks.pair();
         x.row(7);
         Checks.refusesUnchanged("promise 3: row -1", x, OUT, () -> x.drop(-1));
         Checks.refusesUnchanged("promise 3: row 3", x, OUT, () -> x.drop(3));
@@ -100,14 +90,14 @@ public final class RowsTest {
     }
 
     private static void dropMakesNoOtherAnew() {
-        CrowdSketches x = pair();
+        CrowdSketches x = Checks.pair();
         x.manner(true);
         x.drop(1);
         rows("promise 3: no other is anew", x, "[0, 12]");
     }
 
     private static void salt() {
-        CrowdSketches x = pair();
+        CrowdSketches x = Checks.pair();
         Checks.refusesUnchanged("promise 4: row 2", x, OUT, () -> x.salt(2, 5));
         Checks.refusesUnchanged("promise 4: row -1, salt 100", x, OUT, () -> x.salt(-1, 100));
         Checks.refusesUnchanged("promise 4: salt 100", x, WRONG, () -> x.salt(1, 100));
@@ -123,7 +113,7 @@ public final class RowsTest {
     }
 
     private static void saltIsPlain() {
-        CrowdSketches x = pair();
+        CrowdSketches x = Checks.pair();
         x.row(1);
         x.manner(true);
         Checks.same("promise 4: careful", x.salt(2, 0), 1);
@@ -141,7 +131,7 @@ public final class RowsTest {
         Checks.same("promise 5: 16", x.resize(16), 8);
         Checks.same("promise 5: 2", x.resize(2), 16);
         Checks.same("promise 5: cells", x.account(1), 2);
-        CrowdSketches y = pair();
+        CrowdSketches y = Checks.pair();
         Checks.same("promise 5: with names", y.resize(4), 2);
         rows("promise 5: plain", y, "[0, 12, 0, 5]", "[5, 0, 0, 12]");
         y.manner(true);
@@ -152,7 +142,7 @@ public final class RowsTest {
     }
 
     private static void manner() {
-        CrowdSketches x = pair();
+        CrowdSketches x = Checks.pair();
         Checks.refuses("promise 6: plain", NOT_NOW, () -> x.manner(false));
         Checks.refusal("promise 6: plain", x, 3, 0);
         Checks.same("promise 6: to careful", x.manner(true), 29);
@@ -176,7 +166,7 @@ public final class RowsTest {
     }
 
     private static void cell() {
-        CrowdSketches x = pair();
+        CrowdSketches x = Checks.pair();
         Checks.same("promise 8: row 0", x.cell(0, 1), 17);
         Checks.same("promise 8: row 1", x.cell(1, 0), 5);
         Checks.refusesUnchanged("promise 8: cell 2", x, OUT, () -> x.cell(0, 2));
@@ -190,7 +180,7 @@ public final class RowsTest {
     }
 
     private static void cellOf() {
-        CrowdSketches x = pair();
+        CrowdSketches x = Checks.pair();
         Checks.same("promise 9: bo, salt 0", x.cellOf(0, 0), 1);
         Checks.same("promise 9: ed, salt 5", x.cellOf(1, 1), 0);
         Checks.count(x, "zzzzzz", 1);
@@ -213,7 +203,7 @@ public final class RowsTest {
     }
 
     private static void shared() {
-        CrowdSketches x = pair();
+        CrowdSketches x = Checks.pair();
         Checks.same("promise 10: one pair", x.shared(0), 1);
         Checks.same("promise 10: no pair", x.shared(1), 0);
         Checks.refusesUnchanged("promise 10: row 2", x, OUT, () -> x.shared(2));

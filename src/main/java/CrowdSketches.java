@@ -492,14 +492,6 @@ public final class CrowdSketches {
             System.arraycopy(other.gains, 0, gains, 0, DAYS_KEPT);
         }
 
-        /** A name that was undone may have left its counts here. */
-        void startAs(String newText) {
-            text = newText;
-            booked = 0;
-            bookedAtDayEnd = 0;
-            Arrays.fill(gains, 0);
-        }
-
         int sinceDayEnd() {
             return booked - bookedAtDayEnd;
         }
@@ -577,6 +569,7 @@ public final class CrowdSketches {
             }
         }
 
+        /** The names that are not known yet are copied, too: so they are always as new ones. */
         void copyFrom(Sketch other) {
             for (int i = 0; i < MOST_NAMES; i++) {
                 names[i].copyFrom(other.names[i]);
@@ -758,7 +751,7 @@ public final class CrowdSketches {
             if (name == NONE) {
                 name = nameCount;
                 nameCount++;
-                names[name].startAs(text);
+                names[name].text = text;
             }
             return countName(names[name], times);
         }

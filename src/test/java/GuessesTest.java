@@ -145,13 +145,18 @@ public final class GuessesTest {
         Checks.same("promise 24: the tenth", letters("abcdefghij", 1, 1, 1, 1, 1, 1, 1, 1, 1, 99).heavy(true), 512);
     }
 
-    /** 10 percent of 41 are 4.1, so 4 are too few; of 40 they are 4, which is enough. */
+    /** 10 percent of 40 are 4, which is enough; of 41 they are 4.1, so 4 are too few. */
     private static void heavyAtTheShare() {
         CrowdSketches x = letters("ab", 36, 4);
         Checks.same("promise 24: just the share", x.heavy(true), 0b11);
         x.again(0, 1);
         Checks.same("promise 24: less than the share", x.heavy(true), 0b01);
         Checks.same("promise 24: by guess less, too", x.heavy(false), 0b01);
+        CrowdSketches y = letters("ab", 99, 2);
+        y.share(99);
+        Checks.same("promise 24: 99 percent of 101 are more than 99", y.heavy(true), 0);
+        y.take(1, 1);
+        Checks.same("promise 24: 99 percent of 100", y.heavy(true), 0b01);
     }
 
     private static void ranked() {

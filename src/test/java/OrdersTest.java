@@ -210,12 +210,19 @@ public final class OrdersTest {
         Checks.same("promise 37: nothing of '" + text + "'", x.account(12), 0);
     }
 
+    /** Orders of six and seven signs, the semicolon behind each included. */
+    private static String orderSigns(int many) {
+        int sevens = many % 6;
+        return "row 12;".repeat(sevens) + "row 1;".repeat((many - 7 * sevens) / 6);
+    }
+
     private static void errorPositions() {
         String[] tooEarly = {"", "c", "s", "sa", "sh", "cou", "count", "count ", "count bo", "count bo ", "take",
             "take a", "row", "row ", "salt ", "salt 1", "salt 1 ", "cells", "cells ", "share ", "manner", "manner ", "manner p",
             "manner carefu", "row 1;", "row 1;s", "count bo 12;"};
         for (String text : tooEarly) {
             position(text, text.length());
+            position(orderSigns(60 - text.length()) + text, 60);
         }
         // The sign "^" stands ahead of what cannot go on.
         String[] marked = {"^x", "^ row 1", "^;", "^Row 1", "^1", "c^x", "c^annot", "s^!", "sha^lt 1 1", "sal^e 1",

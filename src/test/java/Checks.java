@@ -1,5 +1,7 @@
 import java.util.Arrays;
 import java.util.Objects;
+import java.util.regex.Matcher;
+import java.util.regex.Pattern;
 
 /** What the tests of the project share: comparing, expecting exceptions, and a view of an object. */
 final class Checks {
@@ -7,6 +9,21 @@ final class Checks {
     interface Call {
         Object make();
     }
+
+    /** Makes an object, alike each time. */
+    interface Maker {
+        CrowdSketches make();
+    }
+
+    /** A call on the object given. */
+    interface Use {
+        Object of(CrowdSketches x);
+    }
+
+    private static final String NUMBER = "[0-9]{1,2}";
+    private static final String ORDER = "(count [a-z]{1,6} " + NUMBER + "|take [a-z]{1,6} " + NUMBER + "|row " + NUMBER
+            + "|salt [0-9] " + NUMBER + "|cells " + NUMBER + "|share " + NUMBER + "|manner plain|manner careful)";
+    private static final Pattern ORDERS = Pattern.compile(ORDER + "(;" + ORDER + ")*");
 
     private static int made = 0;
     private static int wrong = 0;
@@ -32,6 +49,79 @@ final class Checks {
         String before = view(x);
         refuses(what, due, call);
         same(what + " leaves the state", view(x), before);
+    }
+
+    /** Throws, and leaves the object like its twin, on which the call was not made. */
+    static void throwsAlone(String what, Maker maker, Class<? extends RuntimeException> due, Use use) {
+        CrowdSketches x = maker.make();
+        CrowdSketches twin = maker.make();
+        refuses(what, due, () -> use.of(x));
+        likeTwin(what, x, twin, reason(twin), twin.errorPosition());
+    }
+
+    /** Is refused so, and but for the reason leaves the object like its twin. */
+    static void isRefused(String what, Maker maker, int reason, int detail, Use use) {
+        CrowdSketches x = maker.make();
+        CrowdSketches twin = maker.make();
+        refuses(what, UnsupportedOperationException.class, () -> use.of(x));
+        likeTwin(what, x, twin, reason + ", " + detail, twin.errorPosition());
+    }
+
+    /** Read of this text throws, and but for the error position leaves the object like its twin. */
+    static void readThrows(Maker maker, String text, int position) {
+        CrowdSketches x = maker.make();
+        CrowdSketches twin = maker.make();
+        refuses("read of " + text, IllegalArgumentException.class, () -> read(x, text));
+        likeTwin("read of " + text, x, twin, reason(twin), position);
+    }
+
+    static void readIsRefused(Maker maker, String text, int reason, int detail) {
+        CrowdSketches x = maker.make();
+        CrowdSketches twin = maker.make();
+        refuses("read of " + text, UnsupportedOperationException.class, () -> read(x, text));
+        likeTwin("read of " + text, x, twin, reason + ", " + detail, -1);
+    }
+
+    private static void likeTwin(String what, CrowdSketches x, CrowdSketches twin, String reason, int position) {
+        same(what + ": the reason then", reason(x), reason);
+        same(what + ": the error position then", x.errorPosition(), position);
+        same(what + ": what there is then", story(x), story(twin));
+    }
+
+    private static String reason(CrowdSketches x) {
+        return answer(() -> x.refusal(false)) + ", " + answer(() -> x.refusal(true));
+    }
+
+    /** What there is but for the reason and the error position; it undoes all and restores, to see that, too. */
+    private static String story(CrowdSketches x) {
+        StringBuilder story = new StringBuilder(changeable(x));
+        story.append(" line ").append(lineText(x));
+        story.append(" input ").append(x.account(11)).append(' ').append(answer(x::named));
+        story.append(" undo ").append(x.account(12));
+        for (int left = x.account(12); left > 0; left--) {
+            story.append(' ').append(x.undo()).append(": ").append(shortly(x));
+        }
+        story.append(" undo ").append(answer(x::undo));
+        return story.append(" restore ").append(answer(x::restore)).append(changeable(x)).toString();
+    }
+
+    private static String shortly(CrowdSketches x) {
+        StringBuilder view = new StringBuilder();
+        for (int what = 0; what <= 6; what++) {
+            view.append(x.account(what)).append(' ');
+        }
+        return view.append(x.account(10)).append(' ').append(x.account(13)).append(' ').append(x.shared(0)).toString();
+    }
+
+    /** The error position due, or -1; a text can go on if the pattern matches it or came to its end. */
+    static int errorOf(String text) {
+        for (int i = 1; i <= text.length(); i++) {
+            Matcher start = ORDERS.matcher(text.substring(0, i));
+            if (!start.matches() && !start.hitEnd()) {
+                return i - 1;
+            }
+        }
+        return ORDERS.matcher(text).matches() ? -1 : text.length();
     }
 
     static Object answer(Call call) {
@@ -72,6 +162,33 @@ final class Checks {
         count(x, "ed", 5);
         x.resize(2);
         x.row(5);
+        return x;
+    }
+
+    /**
+     * "bo" 11 times and "ed" 5 times, apart in two rows of three cells; two days were ended, one count was taken back,
+     * a snapshot was taken ahead of it, a text had an error at 4, a row was refused, and a line was written.
+     */
+    static CrowdSketches crowd() {
+        CrowdSketches x = new CrowdSketches();
+        count(x, "bo", 12);
+        count(x, "ed", 5);
+        x.resize(3);
+        x.row(5);
+        x.save();
+        x.endDay();
+        x.take(0, 1);
+        x.endDay();
+        answer(() -> read(x, "row x"));
+        answer(() -> x.resize(3));
+        x.line(0);
+        return x;
+    }
+
+    /** The same with a name in the input, which stays but for count and read. */
+    static CrowdSketches typing() {
+        CrowdSketches x = crowd();
+        type(x, "ed");
         return x;
     }
 

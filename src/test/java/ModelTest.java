@@ -6,8 +6,6 @@ import java.util.LinkedHashMap;
 import java.util.List;
 import java.util.Map;
 import java.util.NoSuchElementException;
-import java.util.regex.Matcher;
-import java.util.regex.Pattern;
 
 /** Long runs of calls, each answer compared with a second, slower writing of the document. */
 public final class ModelTest {
@@ -23,17 +21,6 @@ public final class ModelTest {
 
     /** The document once more, by lists and maps; a state is never changed in part, but copied and replaced. */
     private static final class Model {
-        private static final Pattern ORDERS;
-
-        static {
-            String name = "[a-z]{1,6}";
-            String number = "[0-9]{1,2}";
-            String order = "(count " + name + " " + number + "|take " + name + " " + number + "|row " + number
-                    + "|salt [0-9] " + number + "|cells " + number + "|share " + number
-                    + "|manner plain|manner careful)";
-            ORDERS = Pattern.compile(order + "(;" + order + ")*");
-        }
-
         private State state = new State();
         private State saved = null;
         private final Deque<State> past = new ArrayDeque<>();
@@ -142,7 +129,7 @@ public final class ModelTest {
         private Object read() {
             String text = input.toString();
             input.setLength(0);
-            errorPosition = errorOf(text);
+            errorPosition = Checks.errorOf(text);
             if (errorPosition >= 0) {
                 throw new IllegalArgumentException();
             }
@@ -160,17 +147,6 @@ public final class ModelTest {
             }
             keep(next);
             return orders.length;
-        }
-
-        /** A prefix can go on if the pattern matches it or came to its end. */
-        private static int errorOf(String text) {
-            for (int i = 1; i <= text.length(); i++) {
-                Matcher prefix = ORDERS.matcher(text.substring(0, i));
-                if (!prefix.matches() && !prefix.hitEnd()) {
-                    return i - 1;
-                }
-            }
-            return ORDERS.matcher(text).matches() ? -1 : text.length();
         }
     }
 

@@ -14,6 +14,7 @@ public final class CountingTest {
         countCarefully();
         again();
         take();
+        takeCarefully();
         named();
         letter();
         Checks.end();
@@ -33,20 +34,13 @@ public final class CountingTest {
     }
 
     private static void countOfWhatIsNoName() {
-        CrowdSketches x = new CrowdSketches();
-        Checks.count(x, "anna", 3);
-        String before = Checks.view(x);
         String[] noNames = {"", "toolong", "A", "an na", "anna ", "a1", "\u00e9", "\u0161", "`", "{", "count a 5"};
         for (String text : noNames) {
-            Checks.type(x, text);
-            Checks.refuses("promise 11: count of '" + text + "'", WRONG, () -> x.count(1));
-            Checks.same("promise 11: after '" + text + "'", Checks.view(x), before);
+            Checks.throwsAlone("promise 11: count of '" + text + "'", Checks::crowd, WRONG, x -> Checks.count(x, text, 1));
         }
         int[] noTimes = {0, 100, -1, Integer.MAX_VALUE, Integer.MIN_VALUE};
         for (int times : noTimes) {
-            Checks.type(x, "anna");
-            Checks.refuses("promise 11: count(" + times + ")", WRONG, () -> x.count(times));
-            Checks.same("promise 11: after count(" + times + ")", Checks.view(x), before);
+            Checks.throwsAlone("promise 11: count(" + times + ")", Checks::crowd, WRONG, x -> Checks.count(x, "bo", times));
         }
     }
 
@@ -119,12 +113,12 @@ public final class CountingTest {
     }
 
     private static void take() {
+        Checks.throwsAlone("promise 13: no name", CrowdSketches::new, OUT, y -> y.take(0, 1));
         CrowdSketches x = new CrowdSketches();
-        Checks.refusesUnchanged("promise 13: no name", x, OUT, () -> x.take(0, 1));
         Checks.count(x, "a", 9);
         Checks.count(x, "i", 5);
         Checks.refusesUnchanged("promise 13: name 2", x, OUT, () -> x.take(2, 0));
-        Checks.refusesUnchanged("promise 13: name -1", x, OUT, () -> x.take(-1, 1));
+        Checks.throwsAlone("promise 13: name -1", Checks::crowd, OUT, y -> y.take(-1, 1));
         Checks.refusesUnchanged("promise 13: 0 times", x, WRONG, () -> x.take(0, 0));
         Checks.refusesUnchanged("promise 13: 100 times", x, WRONG, () -> x.take(0, 100));
         Checks.same("promise 13: three", x.take(0, 3), 11);
@@ -137,13 +131,19 @@ public final class CountingTest {
         Checks.refuses("promise 13: none is left", NOT_NOW, () -> x.take(0, 1));
         Checks.refusal("promise 13: none is left", x, 5, 1);
         Checks.same("promise 13: the cell", x.cell(0, 1), 5);
+    }
+
+    private static void takeCarefully() {
+        CrowdSketches x = new CrowdSketches();
+        Checks.count(x, "a", 9);
+        Checks.count(x, "i", 5);
         x.manner(true);
         Checks.refuses("promise 13: careful comes before too many", NOT_NOW, () -> x.take(0, 99));
         Checks.refusal("promise 13: careful comes before too many", x, 4, 1);
         Checks.refusesUnchanged("promise 13: the name comes before careful", x, OUT, () -> x.take(2, 1));
         Checks.refusesUnchanged("promise 13: the number comes before careful", x, WRONG, () -> x.take(0, 100));
         x.manner(false);
-        Checks.same("promise 13: plain again", x.take(1, 5), 0);
+        Checks.same("promise 13: plain again", x.take(1, 5), 9);
     }
 
     private static void named() {

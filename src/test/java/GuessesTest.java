@@ -29,10 +29,12 @@ public final class GuessesTest {
     }
 
     private static void refusesNames(String what, CrowdSketches x, java.util.function.IntFunction<Object> call) {
+        String before = Checks.view(x);
         int[] wrong = {x.account(4), -1, Integer.MAX_VALUE, Integer.MIN_VALUE};
         for (int name : wrong) {
-            Checks.refusesUnchanged(what + " of name " + name, x, OUT, () -> call.apply(name));
+            Checks.refuses(what + " of name " + name, OUT, () -> call.apply(name));
         }
+        Checks.same(what + " of wrong names leaves the state", Checks.view(x), before);
     }
 
     private static void guess() {

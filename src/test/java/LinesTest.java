@@ -63,6 +63,13 @@ public final class LinesTest {
         Checks.same("promise 34: the last", x.character(7), 'H');
         Checks.refusesUnchanged("promise 34: index 8 of 8", x, OUT, () -> x.character(8));
         Checks.refusesUnchanged("promise 34: index -1", x, OUT, () -> x.character(-1));
+        lineIsNotUndone();
+    }
+
+    private static void lineIsNotUndone() {
+        CrowdSketches x = new CrowdSketches();
+        Checks.count(x, "bo", 5);
+        x.line(0);
         x.undo();
         Checks.same("promise 34: the line is not undone", Checks.lineText(x), "bo 5/5 H");
         x.daysLine(Checks.count(x, "a", 1) - 1);

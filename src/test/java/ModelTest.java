@@ -10,7 +10,8 @@ import java.util.NoSuchElementException;
 /** Long runs of calls, each answer compared with a second, slower writing of the document. */
 public final class ModelTest {
     private static final int RUNS = 3000;
-    private static final int CALLS = 512;
+    // One call more is made at the end of a run.
+    private static final int CALLS = 511;
 
     public static void main(String[] args) {
         for (int run = 0; run < RUNS; run++) {

@@ -120,8 +120,8 @@ public final class UndoTest {
     }
 
     private static void restore() {
+        Checks.throwsAlone("promise 45: no snapshot", Checks::pair, NOT_SO, CrowdSketches::restore);
         CrowdSketches x = Checks.pair();
-        Checks.refusesUnchanged("promise 45: no snapshot", x, NOT_SO, x::restore);
         x.endDay();
         x.take(0, 2);
         x.endDay();

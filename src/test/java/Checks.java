@@ -97,12 +97,13 @@ final class Checks {
         StringBuilder story = new StringBuilder(changeable(x));
         story.append(" line ").append(lineText(x));
         story.append(" input ").append(x.account(11)).append(' ').append(answer(x::named));
-        story.append(" undo ").append(x.account(12));
+        story.append(" undo ").append(x.account(12)).append(" salts ").append(salts(x));
         for (int left = x.account(12); left > 0; left--) {
             story.append(' ').append(x.undo()).append(": ").append(shortly(x));
         }
         story.append(" undo ").append(answer(x::undo));
-        return story.append(" restore ").append(answer(x::restore)).append(changeable(x)).toString();
+        story.append(" restore ").append(answer(x::restore)).append(salts(x));
+        return story.append(changeable(x)).toString();
     }
 
     private static String shortly(CrowdSketches x) {
@@ -223,7 +224,7 @@ final class Checks {
         return view.toString();
     }
 
-    /** What changes can change, and undo and restore bring back. */
+    /** What changes can change, and undo and restore bring back; in few calls, since an object has but 512. */
     static String changeable(CrowdSketches x) {
         StringBuilder view = new StringBuilder();
         for (int what = 0; what <= 13; what++) {
@@ -231,36 +232,54 @@ final class Checks {
                 view.append(x.account(what)).append(' ');
             }
         }
-        for (int row = 0; row < x.account(0); row++) {
-            view.append("row ").append(cells(x, row)).append(x.shared(row)).append(' ');
+        int rows = x.account(0);
+        for (int row = 0; row < rows; row++) {
+            view.append("row ").append(cells(x, row)).append(' ');
         }
-        for (int name = 0; name < x.account(4); name++) {
-            view.append(nameView(x, name));
+        int names = x.account(4);
+        for (int name = 0; name < names; name++) {
+            view.append(nameView(x, name, rows));
         }
-        view.append(x.heavy(true)).append(' ').append(x.heavy(false)).append(' ').append(answer(x::worst));
-        view.append(' ').append(answer(x::busiest)).append(x.bound()).append(x.isWell());
-        view.append(answer(x::meanError)).append(' ').append(x.fullShare());
-        return view.toString();
+        return view.append(x.heavy(true)).append(' ').append(x.isWell()).toString();
     }
 
-    private static String nameView(CrowdSketches x, int name) {
+    private static String nameView(CrowdSketches x, int name, int rows) {
         StringBuilder view = new StringBuilder();
-        for (int i = 0; i < 6; i++) {
-            int index = i;
-            view.append(answer(() -> x.letter(name, index)));
+        for (int i = 0; answer(letter(x, name, i)) instanceof Character c; i++) {
+            view.append((char) c);
         }
-        for (int row = 0; row < x.account(0); row++) {
+        for (int row = 0; row < rows; row++) {
             view.append('@').append(x.cellOf(row, name));
         }
-        view.append(' ').append(x.guess(name)).append('/').append(x.booked(name));
-        view.append(' ').append(x.plainGuess(name));
-        view.append(' ').append(x.error(name)).append(x.isWithin(name)).append(x.bestRow(name));
-        view.append(' ').append(x.ranked(name)).append(' ').append(x.today(name)).append(x.isRising(name));
-        for (int i = 0; i < 5; i++) {
-            int back = i;
-            view.append(' ').append(answer(() -> x.gained(name, back)));
+        view.append(' ').append(x.guess(name)).append('/').append(x.booked(name)).append(' ').append(x.today(name));
+        for (int back = 0; answer(gained(x, name, back)) instanceof Integer gain; back++) {
+            view.append(' ').append((int) gain);
         }
         return view.append("; ").toString();
+    }
+
+    private static Call letter(CrowdSketches x, int name, int index) {
+        return () -> x.letter(name, index);
+    }
+
+    private static Call gained(CrowdSketches x, int name, int back) {
+        return () -> x.gained(name, back);
+    }
+
+    /** It writes lines. */
+    static String salts(CrowdSketches x) {
+        StringBuilder salts = new StringBuilder();
+        int rows = x.account(0);
+        for (int row = 0; row < rows; row++) {
+            x.rowLine(row);
+            char sign = x.character(0);
+            for (int i = 1; sign != ':'; i++) {
+                salts.append(sign);
+                sign = x.character(i);
+            }
+            salts.append(':');
+        }
+        return salts.toString();
     }
 
     static void end() {

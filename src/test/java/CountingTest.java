@@ -174,9 +174,9 @@ public final class CountingTest {
         Checks.same("promise 15: anna", "" + x.letter(0, 0) + x.letter(0, 1) + x.letter(0, 3), "ana");
         Checks.same("promise 15: the sixth", x.letter(1, 5), 's');
         Checks.refusesUnchanged("promise 15: index 4 of 4", x, NONE, () -> x.letter(0, 4));
-        Checks.refusesUnchanged("promise 15: index 6 of 6", x, NONE, () -> x.letter(1, 6));
-        Checks.refusesUnchanged("promise 15: index -1", x, NONE, () -> x.letter(0, -1));
-        Checks.refusesUnchanged("promise 15: name 2", x, OUT, () -> x.letter(2, 0));
-        Checks.refusesUnchanged("promise 15: name -1, index -1", x, OUT, () -> x.letter(-1, -1));
+        Checks.refuses("promise 15: index 6 of 6", NONE, () -> x.letter(1, 6));
+        Checks.refuses("promise 15: index -1", NONE, () -> x.letter(0, -1));
+        Checks.refuses("promise 15: name 2", OUT, () -> x.letter(2, 0));
+        Checks.refuses("promise 15: name -1, index -1", OUT, () -> x.letter(-1, -1));
     }
 }

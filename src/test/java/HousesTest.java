@@ -161,26 +161,17 @@ public final class HousesTest {
         Checks.same("four rows: their cells", y.account(6), 20);
     }
 
-    private static String salts(CrowdSketches x) {
-        StringBuilder salts = new StringBuilder();
-        for (int row = 0; row < x.account(0); row++) {
-            x.rowLine(row);
-            salts.append(Checks.lineText(x), 0, Checks.lineText(x).indexOf(':') + 1);
-        }
-        return salts.toString();
-    }
-
     private static void rowsOfFourDropped() {
         String[] due = {"11:22:33:", "0:22:33:", "0:11:33:", "0:11:22:"};
         for (int row = 0; row < due.length; row++) {
             CrowdSketches x = four();
             Checks.same("row " + row + " of four is dropped", x.drop(row), 3);
-            Checks.same("the others", salts(x), due[row]);
+            Checks.same("the others", Checks.salts(x), due[row]);
             for (int i = 0; i < 3; i++) {
                 Checks.same("row " + i + " still counts", x.cell(i, x.cellOf(i, 0)), 5);
             }
             x.undo();
-            Checks.same("row " + row + " is there again", salts(x), "0:11:22:33:");
+            Checks.same("row " + row + " is there again", Checks.salts(x), "0:11:22:33:");
         }
     }
 
@@ -216,7 +207,7 @@ public final class HousesTest {
         CrowdSketches x = new CrowdSketches();
         Checks.same("a text of sixty signs", Checks.type(x, text), 60);
         Checks.same("its orders", x.read(), 7);
-        Checks.same("all of them", salts(x) + x.account(1) + x.account(3) + x.booked(0), "0:10:20:44:16509");
+        Checks.same("all of them", Checks.salts(x) + x.account(1) + x.account(3) + x.booked(0), "0:10:20:44:16509");
         Checks.readThrows(CrowdSketches::new, text.substring(0, 59) + ";", 59);
         Checks.readThrows(CrowdSketches::new, text.substring(0, 57) + " 9;", 60);
         Checks.readThrows(CrowdSketches::new, text.substring(0, 59) + "x", 59);

@@ -15,33 +15,45 @@ public final class UndoTest {
         Checks.end();
     }
 
-    private static void undone(String what, CrowdSketches x, Checks.Call change) {
+    private static void undone(String what, Checks.Maker maker, Checks.Use change) {
+        CrowdSketches x = maker.make();
         String before = Checks.changeable(x);
         int changes = x.account(12);
-        change.make();
+        change.of(x);
         Checks.same("promise 43: " + what + " is a change", x.account(12), changes + 1);
         Checks.same("promise 43: undo of " + what, x.undo(), changes);
         Checks.same("promise 43: after undo of " + what, Checks.changeable(x), before);
+        CrowdSketches twin = maker.make();
+        Checks.same("promise 43: salts after undo of " + what, Checks.salts(x), Checks.salts(twin));
     }
 
     private static void undoOfEach() {
+        undone("row", Checks::crowd, x -> x.row(9));
+        undone("drop", Checks::crowd, x -> x.drop(0));
+        undone("salt", Checks::crowd, x -> x.salt(1, 3));
+        undone("resize", Checks::crowd, x -> x.resize(7));
+        undone("manner", Checks::crowd, x -> x.manner(true));
+        undone("share", Checks::crowd, x -> x.share(50));
+        undone("count", Checks::crowd, x -> Checks.count(x, "bo", 9));
+        undone("count of a new name", Checks::crowd, x -> Checks.count(x, "new", 9));
+        undone("again", Checks::crowd, x -> x.again(1, 2));
+        undone("take", Checks::crowd, x -> x.take(1, 2));
+        undone("endDay", Checks::crowd, CrowdSketches::endDay);
+        undone("read", Checks::crowd, x -> Checks.read(x, "row 1;share 3;count new 5;cells 4;manner careful"));
+        undone("count, careful", UndoTest::careful, x -> Checks.count(x, "ed", 9));
+        undone("manner, careful", UndoTest::careful, x -> x.manner(false));
+        undone("drop, careful", UndoTest::careful, x -> x.drop(1));
+        undone("salt, careful", UndoTest::careful, x -> x.salt(1, 0));
+        undone("row, careful", UndoTest::careful, x -> x.row(1));
+        undone("the first of all", CrowdSketches::new, x -> Checks.count(x, "a", 1));
+    }
+
+    /** "ed" shares its cell with "bo" in one row and with "d" in the other, and was counted in parts. */
+    private static CrowdSketches careful() {
         CrowdSketches x = Checks.pair();
-        undone("row", x, () -> x.row(9));
-        undone("drop", x, () -> x.drop(0));
-        undone("salt", x, () -> x.salt(1, 3));
-        undone("resize", x, () -> x.resize(7));
-        undone("manner", x, () -> x.manner(true));
-        undone("share", x, () -> x.share(50));
-        undone("count", x, () -> Checks.count(x, "bo", 9));
-        undone("count of a new name", x, () -> Checks.count(x, "new", 9));
-        undone("again", x, () -> x.again(1, 2));
-        undone("take", x, () -> x.take(1, 2));
-        undone("endDay", x, x::endDay);
-        undone("read", x, () -> Checks.read(x, "row 1;share 3;count new 5;cells 4;manner careful"));
         x.manner(true);
-        undone("manner, careful", x, () -> x.manner(false));
-        undone("drop, careful", x, () -> x.drop(1));
-        undone("salt, careful", x, () -> x.salt(1, 0));
+        Checks.read(x, "count d 9;count ed 3");
+        return x;
     }
 
     private static void undoOfEight() {
@@ -49,14 +61,23 @@ public final class UndoTest {
         Checks.refusesUnchanged("promise 43: a new object", x, NOT_SO, x::undo);
         String[] before = new String[12];
         for (int i = 0; i < before.length; i++) {
-            before[i] = Checks.changeable(x);
+            before[i] = shortly(x);
             Checks.count(x, "abcd".substring(i / 3, i / 3 + 1), i + 1);
         }
         for (int left = 7; left >= 0; left--) {
             Checks.same("promise 43: left", x.undo(), left);
-            Checks.same("promise 43: with " + left + " left", Checks.changeable(x), before[4 + left]);
+            Checks.same("promise 43: with " + left + " left", shortly(x), before[4 + left]);
         }
         Checks.refusesUnchanged("promise 43: a ninth", x, NOT_SO, x::undo);
+    }
+
+    private static String shortly(CrowdSketches x) {
+        StringBuilder view = new StringBuilder();
+        int names = x.account(4);
+        for (int name = 0; name < names; name++) {
+            view.append(x.letter(name, 0)).append(x.guess(name)).append('/').append(x.booked(name)).append(' ');
+        }
+        return view.append(x.account(6)).toString();
     }
 
     private static void undoOfWhatIsNoChange() {

@@ -129,5 +129,21 @@ public final class AccountsTest {
         x.take(1, 1);
         x.take(0, 9);
         Checks.same("promise 42: all taken back", x.fullShare(), 0.0f);
+        emptyAndFull();
+    }
+
+    private static void emptyAndFull() {
+        CrowdSketches x = new CrowdSketches();
+        Checks.read(x, "row 1;row 2;row 3;cells 16");
+        Checks.same("promise 42: none of the most cells", x.fullShare(), 0.0f);
+        account(x, 7, 64);
+        Checks.count(x, "a", 1);
+        Checks.same("promise 42: one in each row of the most cells", x.fullShare(), 0.0625f);
+        account(x, 7, 60);
+        x.resize(2);
+        Checks.count(x, "b", 1);
+        Checks.same("promise 42: all cells", x.fullShare(), 1.0f);
+        account(x, 7, 0);
+        account(x, 6, 8);
     }
 }

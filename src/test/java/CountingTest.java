@@ -36,11 +36,13 @@ public final class CountingTest {
     private static void countOfWhatIsNoName() {
         String[] noNames = {"", "toolong", "A", "an na", "anna ", "a1", "\u00e9", "\u0161", "`", "{", "count a 5"};
         for (String text : noNames) {
-            Checks.throwsAlone("promise 11: count of '" + text + "'", Checks::crowd, WRONG, x -> Checks.count(x, text, 1));
+            Checks.throwsAlone("promise 11: count of '" + text + "'", Checks::crowd, WRONG,
+                    x -> Checks.count(x, text, 1));
         }
         int[] noTimes = {0, 100, -1, Integer.MAX_VALUE, Integer.MIN_VALUE};
         for (int times : noTimes) {
-            Checks.throwsAlone("promise 11: count(" + times + ")", Checks::crowd, WRONG, x -> Checks.count(x, "bo", times));
+            Checks.throwsAlone("promise 11: count(" + times + ")", Checks::crowd, WRONG,
+                    x -> Checks.count(x, "bo", times));
         }
     }
 

@@ -71,6 +71,13 @@ public final class HousesTest {
         Checks.same("ten names: the mean error", x.meanError(), 1.2);
         Checks.same("ten names: heavy by the book", x.heavy(true), 1023);
         Checks.same("ten names: save", x.save(), 10);
+        Checks.same("ten names: a day", x.endDay(), 30);
+        x.take(9, 1);
+        Checks.same("ten names: another day", x.endDay(), -1);
+        Checks.same("ten names: the busiest day", x.busiest(), 1);
+        Checks.same("ten names: what the last gained", x.gained(9, 0), -1);
+        x.undo();
+        x.undo();
         Checks.isRefused("ten names: an eleventh", HousesTest::ten, 1, 10, y -> Checks.count(y, "k", 1));
         Checks.isRefused("ten names: one that begins alike", HousesTest::ten, 1, 10, y -> Checks.count(y, "aa", 1));
         for (char c = 'a'; c <= 'j'; c++) {

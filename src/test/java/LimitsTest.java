@@ -99,7 +99,8 @@ public final class LimitsTest {
     private static String shortly(CrowdSketches x) {
         StringBuilder text = new StringBuilder();
         for (int row = 0; row < x.account(0); row++) {
-            text.append(x.rowLine(row)).append(' ').append(x.cell(row, 0)).append(' ').append(x.shared(row)).append(' ');
+            text.append(x.rowLine(row)).append(' ').append(x.cell(row, 0)).append(' ');
+            text.append(x.shared(row)).append(' ');
         }
         return text.append(x.account(5)).append(' ').append(x.account(6)).append(x.account(7)).toString();
     }

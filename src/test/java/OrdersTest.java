@@ -218,8 +218,8 @@ public final class OrdersTest {
 
     private static void errorPositions() {
         String[] tooEarly = {"", "c", "s", "sa", "sh", "cou", "count", "count ", "count bo", "count bo ", "take",
-            "take a", "row", "row ", "salt ", "salt 1", "salt 1 ", "cells", "cells ", "share ", "manner", "manner ", "manner p",
-            "manner carefu", "row 1;", "row 1;s", "count bo 12;"};
+            "take a", "row", "row ", "salt ", "salt 1", "salt 1 ", "cells", "cells ", "share ", "manner", "manner ",
+            "manner p", "manner carefu", "row 1;", "row 1;s", "count bo 12;"};
         for (String text : tooEarly) {
             position(text, text.length());
             position(orderSigns(60 - text.length()) + text, 60);

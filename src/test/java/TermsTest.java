@@ -251,7 +251,8 @@ public final class TermsTest {
         for (int name = 0; name < 5; name++) {
             Checks.same("today of name " + name, x.today(name), name == 4 ? 7 : 0);
             for (int back = 0; back < 5; back++) {
-                Checks.same("name " + name + ", " + back + " days back", x.gained(name, back), name + back == 3 ? 7 : 0);
+                int due = name + back == 3 ? 7 : 0;
+                Checks.same("name " + name + ", " + back + " days back", x.gained(name, back), due);
             }
         }
         Checks.same("the days on which one became known are alike", x.busiest(), 0);
